@@ -396,10 +396,10 @@ public final class QuotientQuoin {
     }
 
     /**
-     * The slots of one filter. Rows are as long as the largest filter; only the first 2^bits
-     * elements of each are in use. A slot is empty when its counter is 0. Walks round the
-     * table end because at least one eighth of the slots is empty; their step counters only
-     * make that plain.
+     * The slots of one filter. Rows are as long as the largest filter needs; only the first
+     * 2^bits elements of each are in use. A slot is empty when its counter is 0. What goes
+     * round the table ends because at least one eighth of the slots is empty; the counters of
+     * its steps only make that plain.
      */
     private static final class Table {
         final int[] remainders;
@@ -557,12 +557,10 @@ public final class QuotientQuoin {
             int length = 0;
             for (int step = 0; step < allSlots(); step++) {
                 int slot = wrap(start + step);
-                if (isEmpty(slot)) {
-                    length = 0;
-                } else {
+                if (!isEmpty(slot)) {
                     length = shifted[slot] ? length + 1 : 1;
+                    longest = Math.max(longest, length);
                 }
-                longest = Math.max(longest, length);
             }
             return longest;
         }
@@ -594,8 +592,8 @@ public final class QuotientQuoin {
             }
         }
 
-        // What runs over the last slot takes the first ones before the run of any quotient
-        // is placed there; since some slot stays empty, it can't grow by that.
+        // Runs that go over the last slot take the first ones, so what is placed first begins
+        // after them; since some slot stays empty, no more goes over the last slot for that.
         void fill(int newBits, Bag bag) {
             wipe();
             bits = newBits;
