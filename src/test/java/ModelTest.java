@@ -1,7 +1,3 @@
-import java.lang.reflect.InvocationTargetException;
-import java.lang.reflect.Method;
-import java.util.LinkedHashMap;
-import java.util.Map;
 import java.util.Random;
 
 /** Runs of up to 512 calls with fixed seeds, each call compared with what Model answers. */
@@ -107,36 +103,7 @@ public final class ModelTest {
     }
 
     private void compare(String call, int... arguments) {
-        String method = call.substring(0, call.indexOf(' '));
-        Object[] boxed = new Object[arguments.length];
-        StringBuilder shown = new StringBuilder(name).append(": ").append(method);
-        for (int i = 0; i < boxed.length; i++) {
-            boxed[i] = arguments[i];
-            shown.append(' ').append(arguments[i]);
-        }
-        CHECKS.due(shown.toString(), answer(MODEL_METHODS, model, method, boxed),
-                answer(QUOIN_METHODS, quoin, method, boxed));
-    }
-
-    private static Object answer(Map<String, Method> methods, Object target, String name, Object[] arguments) {
-        try {
-            Object answer = methods.get(name).invoke(target, arguments);
-            return answer == null ? "nothing" : answer;
-        } catch (InvocationTargetException e) {
-            return "throws " + e.getCause().getClass().getName();
-        } catch (IllegalAccessException e) {
-            throw new IllegalStateException(e);
-        }
-    }
-
-    private static final Map<String, Method> MODEL_METHODS = methodsOf(Model.class);
-    private static final Map<String, Method> QUOIN_METHODS = methodsOf(QuotientQuoin.class);
-
-    private static Map<String, Method> methodsOf(Class<?> type) {
-        Map<String, Method> methods = new LinkedHashMap<>();
-        for (Method method : type.getMethods()) {
-            methods.put(method.getName(), method);
-        }
-        return methods;
+        Calls.Call made = new Calls.Call(call.substring(0, call.indexOf(' ')), arguments);
+        CHECKS.due(name + ": " + made, Calls.answer(model, made), Calls.answer(quoin, made));
     }
 }
