@@ -775,8 +775,9 @@ public final class EdgeTest {
         }
         for (String line : new String[] {"14 merge", "15 intersect", "16 isSame"}) {
             String[] words = line.split(" ");
-            Run x = fullFrom(promise(Integer.parseInt(words[0]), NO_FILTER), 0, 7);
+            Run x = promise(Integer.parseInt(words[0]), NO_FILTER);
             for (int filter = 0; filter < 4; filter++) {
+                fullFrom(x, filter, 7 - filter);
                 x.refusedFor(NO_FILTERS, 1, INDEX, words[1], filter, 0);
             }
             x.refused(INDEX, words[1], 4, 4).refused(INDEX, words[1], -1, -1);
