@@ -333,16 +333,19 @@ public final class QuotientQuoin {
 
         void becomeSum(Bag one, Bag two) {
             drop();
-            int i = 0;
             int j = 0;
-            for (int left = one.size + two.size; left > 0; left--) {
-                if (j >= two.size || (i < one.size && one.fingerprints[i] <= two.fingerprints[j])) {
-                    append(one.fingerprints[i], one.counts[i]);
-                    i++;
-                } else {
-                    append(two.fingerprints[j], two.counts[j]);
-                    j++;
-                }
+            for (int i = 0; i < one.size; i++) {
+                int next = two.placeNotBelow(one.fingerprints[i], j);
+                appendPart(two, j, next);
+                append(one.fingerprints[i], one.counts[i]);
+                j = next;
+            }
+            appendPart(two, j, two.size);
+        }
+
+        void appendPart(Bag other, int from, int end) {
+            for (int i = from; i < end; i++) {
+                append(other.fingerprints[i], other.counts[i]);
             }
         }
 
